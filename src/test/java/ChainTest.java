@@ -41,7 +41,7 @@ public final class ChainTest {
             {0, 0, 0, 0, 0}, {0, 97, 0, 0, 0}, {0, 1, 0, 0, 0}, {0, 96, 0, 0, 0}, {0, 22, 0, 0, 0},
             {0, 2, 1, 0, 0}, {0, 2, 0, 1, 0}, {0, 2, 0, 0, 1},
             {1, 0, 0, 0, 0}, {1, 2, 4, 1, 2}, {1, 97, 0, 0, 1}, {1, 1, 97, 0, 1}, {1, 1, 0, 97, 1},
-            {1, 1, 0, 0, 97}, {1, -1, 0, 0, 1}, {1, 1, -1, 0, 1}, {1, 1, 0, -1, 1}, {1, 1, 0, 0, -1},
+            {1, 97, 1, 1, 1}, {1, 1, 1, 1, 97}, {1, 1, 1, 97, 1}, {1, 1, 97, 1, 1}, {1, 1, 0, 0, 97}, {1, -1, 0, 0, 1}, {1, 1, -1, 0, 1}, {1, 1, 0, -1, 1}, {1, 1, 0, 0, -1},
             {2, 0, 0, 0, 0}, {2, 16, 0, 0, 0}, {2, -1, 0, 0, 0}, {2, 1, 1, 0, 0}, {2, 1, 0, 1, 0}, {2, 1, 0, 0, 1},
             {3, 1, 0, 0, 0}, {3, 0, 1, 0, 0}, {3, 0, 0, 1, 0}, {3, 0, 0, 0, 1}, {3, -1, 0, 0, 0},
             {4, 1, 0, 0, 0}, {4, 0, 1, 0, 0}, {4, 0, 0, 1, 0}, {4, 0, 0, 0, 1}, {4, 0, 0, 0, -1}};
@@ -51,6 +51,8 @@ public final class ChainTest {
         }
         Due.is("stages", x.count(1), 0);
         Due.is("acts", x.count(7), 0);
+        Due.is("an untwist by the largest numbers", x.stages(1, 96, 95, 96, 96), 1);
+        Due.is("and the other way", x.stages(1, 96, 96, 95, 96), 2);
     }
 
     private static void sameAsSent(String what, TwistedLight x) {
@@ -101,6 +103,9 @@ public final class ChainTest {
         x.adds(4, 0, 0, 92, 0);
         Due.is("0 becomes no light", x.at(0, 0, 2), 0);
         Due.is("the others decide", x.at(0, 1, 2), 75);
+        TwistedLight two = Due.told("d1 49 0 0 49;");
+        two.stages(3, 0, 0, 0, 0);
+        Due.is("49 by 2", two.at(1, 7, 2), 1);
         TwistedLight light = Due.told("x1 2 3;");
         light.stages(3, 0, 0, 0, 0);
         sameAsSent("blind by 1", light);
@@ -149,6 +154,14 @@ public final class ChainTest {
         tie.stages(4, 0, 0, 0, 0);
         Due.is("a tie, row 0", tie.at(0, 0, 2), 1);
         Due.is("a tie, row 1", tie.at(1, 0, 2), 22);
+        TwistedLight other = Due.told("m0;d1 22 0 0 1;");
+        other.stages(4, 0, 0, 0, 0);
+        Due.is("the other tie, row 0", other.at(0, 0, 2), 22);
+        Due.is("the other tie, row 1", other.at(1, 0, 2), 1);
+        TwistedLight symbols = Due.told("x0 0 0 1;y3 0 0 2 0 1;m3;d2 1 1 0 0;");
+        symbols.stages(4, 0, 0, 0, 0);
+        Due.is("what is sent at 3, row 0", symbols.at(0, 3, 2), 22);
+        Due.is("what is sent at 3, row 1", symbols.at(1, 3, 2), 96);
         // Row 0 is 22 + 75 = 0, right by any turn; row 1 is right by 3 alone.
         TwistedLight both = Due.told("m0;d2 0 1 0 0;d4 0 0 75 0;");
         both.stages(4, 0, 0, 0, 0);

@@ -11,6 +11,8 @@ public final class LearntTest {
         order();
         orderTies();
         orderOfFour();
+        lastOrder();
+        orderIfAllIsWrong();
         lag();
         Due.end();
     }
@@ -106,9 +108,27 @@ public final class LearntTest {
         y.adds(4, 0, 3, 40, 0);
         Due.is("none fits", y.spreads(0), 0);
         Due.is("none is the smallest", y.spreads(1), Due.NONE);
+        spreadsOfOneMark(0, 0);
+        spreadsOfOneMark(1, 15);
         for (int what : Due.outside(0, 1)) {
             Due.is("spreads(" + what + ")", y.spreads(what), Due.BAD);
         }
+    }
+
+    /** Compares with trying each unspread as a stage. */
+    private static void spreadsOfOneMark(int row, int place) {
+        TwistedLight x = Due.told("m" + place + ";");
+        int fitting = x.spreads(0);
+        x.adds(4, row, place, 49, 0);
+        int due = 0;
+        for (int a = 1; a <= 96; a++) {
+            if (x.stages(0, a, 0, 0, 0) == 1) {
+                due += x.at(0, place, 3) == 0 && x.at(1, place, 3) == 0 ? 1 : 0;
+                x.drops(0);
+            }
+        }
+        Due.is("spreads(0) with a mark at " + place + " hit in row " + row, x.spreads(0), due);
+        Due.is("the hit matters", due == fitting ? 1 : 0, 0);
     }
 
     private static void spreadsOfMarksAlone() {
@@ -184,6 +204,32 @@ public final class LearntTest {
         Due.is("stage(3, 0)", x.stage(3, 0), 4);
         Due.is("count(3)", x.count(3), least);
         Due.is("order(3) then", x.order(3), 3);
+    }
+
+    /** Twists and lateness do not change places, so that only the last order is right. */
+    private static void lastOrder() {
+        TwistedLight x = Due.told("x0 1 2 3 0 1 3 2 2 3 1 0;y3 2 1 0 2 1 0 1 2 3;"
+                + "d1 2 5 1 3;d3 2 0 0 0;d1 3 1 4 2;d3 5 0 0 0;");
+        x.stages(1, 2, 5, 1, 3);
+        x.stages(2, 2, 0, 0, 0);
+        x.stages(1, 3, 1, 4, 2);
+        x.stages(2, 5, 0, 0, 0);
+        Due.is("order(-1) of the last order", x.order(-1), 0);
+        for (int k = 0; k < 4; k++) {
+            Due.is("order(" + k + ") of the last order", x.order(k), 3 - k);
+        }
+        Due.is("orders() to the last order", x.orders(), 0);
+        Due.is("orders() again", x.orders(), Due.STATE);
+    }
+
+    private static void orderIfAllIsWrong() {
+        TwistedLight x = Due.told("d2 0 2 0 0;");
+        x.stages(2, 3, 0, 0, 0);
+        x.stages(2, 4, 0, 0, 0);
+        Due.is("order(-1) if all is wrong", x.order(-1), 32);
+        Due.is("order(0) if all is wrong", x.order(0), 0);
+        Due.is("order(1) if all is wrong", x.order(1), 1);
+        Due.is("orders() if all is wrong", x.orders(), Due.STATE);
     }
 
     private static void lag() {

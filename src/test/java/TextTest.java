@@ -189,6 +189,14 @@ public final class TextTest {
         Due.is("observations", x.count(5), 0);
         Due.is("characters", x.count(6), 0);
         Due.is("acts: sends, sends, marks, adds, stages, hears, block", x.count(7), 6);
+        Due.type(x, "x3 2 1 3;y1 2 3;y 3;x1 2;");
+        Due.is("block() of rows told twice", x.block(), 4);
+        int[] last0 = {1, 2, 0, 0, 0};
+        int[] last1 = {3, 0, 0, 0, 0};
+        for (int place = 0; place < 5; place++) {
+            Due.is("row 0 told last at " + place, x.at(0, place, 0), last0[place]);
+            Due.is("row 1 told last at " + place, x.at(1, place, 0), last1[place]);
+        }
         Due.type(x, "y2;");
         Due.is("block() of y alone", x.block(), 1);
         Due.is("row 0 is 0 if it is not told", x.at(0, 0, 0), 0);
