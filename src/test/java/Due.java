@@ -5,8 +5,22 @@ final class Due {
 
     private static int wrong = 0;
     private static int compared = 0;
+    private static String sentence = "";
 
     private Due() {
+    }
+
+    /** Names the sentence of the document that the answers from here on are due by. */
+    static void by(String saidThere) {
+        sentence = "\"" + saidThere + "\": ";
+    }
+
+    static void is(String what, String got, String want) {
+        compared++;
+        if (!got.equals(want)) {
+            wrong++;
+            System.out.println(sentence + what + " shows\n  " + got + "\n  due is\n  " + want);
+        }
     }
 
     static void is(String what, long got, long want) {
@@ -14,7 +28,7 @@ final class Due {
         if (got != want) {
             wrong++;
             if (wrong <= 50) {
-                System.out.println(what + " answered " + got + ", due is " + want);
+                System.out.println(sentence + what + " answered " + got + ", due is " + want);
             }
         }
     }
