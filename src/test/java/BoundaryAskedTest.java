@@ -18,6 +18,7 @@ public final class BoundaryAskedTest {
         skewThroughNone();
         skewOfMarkedPlaces();
         spreadsRange();
+        spreadsBehindStages();
         spreadsNone();
         spreadsOfMarkedPlaces();
         spreadsWithoutMarks();
@@ -39,6 +40,7 @@ public final class BoundaryAskedTest {
         keepInPlaceOfWhatItHad();
         backWithoutKeep();
         backEndsUndo();
+        backLeavesTheRest();
         imagesAreApart();
         countRanges();
         Due.end();
@@ -239,6 +241,22 @@ public final class BoundaryAskedTest {
         }
         Due.is("what is 2", new TwistedLight().spreads(2), Due.BAD);
         Due.is("what is -1", new TwistedLight().spreads(-1), Due.BAD);
+    }
+
+    private static void spreadsBehindStages() {
+        Due.by("if what is received goes through a further stage unspread by A");
+        TwistedLight x = Due.told(ALL_MARKED + "x0 1 2 3 0 1 3 2 2 3 1 0;y3 2 1 0 2 1 0 1 2 3;d0 5 0 0 0;d0 7 0 0 0;");
+        Due.is("two spreads", x.spreads(0), 0);
+        x.stages(0, 7, 0, 0, 0);
+        Due.is("one of them is left", x.spreads(0), 1);
+        Due.is("it is 5", x.spreads(1), 5);
+        x.drops(0);
+        x.stages(0, 5, 0, 0, 0);
+        Due.is("it is 7", x.spreads(1), 7);
+        for (int n = 0; n < 3; n++) {
+            x.stages(1, 1, 0, 0, 1);
+        }
+        Due.is("with a full chain", x.spreads(1), 7);
     }
 
     private static void spreadsNone() {
@@ -563,6 +581,21 @@ public final class BoundaryAskedTest {
         Due.is("undo() beyond", x.undo(), Due.STATE);
     }
 
+    private static void backLeavesTheRest() {
+        Due.by("the state (see Acts); Restores the state that an image has");
+        TwistedLight x = new TwistedLight();
+        x.sees(0, 9, 2);
+        Due.type(x, "x1;");
+        x.keep(0);
+        x.sees(0, 8, 0);
+        Due.type(x, "y4");
+        Due.is("back(0)", x.back(0), 0);
+        Due.is("observations", x.count(5), 2);
+        Due.is("they are the same", x.fits(1), 4 * 9 + 2);
+        Due.is("characters", x.count(6), 5);
+        Due.is("they are the same", x.block(), -14);
+    }
+
     private static void imagesAreApart() {
         Due.by("Restores the state that an image has; the image stays");
         TwistedLight x = Due.told("x1;m1;d2 0 2 0 0;");
@@ -577,8 +610,7 @@ public final class BoundaryAskedTest {
         x.back(0);
         x.cuts();
         x.marks(9, 1);
-        x.undo();
-        x.undo();
+        Due.is("undo() changes no image", x.undo(), 1);
         Due.is("back(1)", x.back(1), 0);
         Due.is("what is sent in image 1", x.at(1, 0, 0) * 10 + x.at(0, 0, 0), 20);
         Due.is("heard in image 1", x.count(4), 2);

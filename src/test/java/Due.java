@@ -45,9 +45,10 @@ final class Due {
     }
 
     static void type(TwistedLight x, String text) {
+        int characters = x.count(6);
         for (int i = 0; i < text.length(); i++) {
-            int before = x.count(6);
-            is("type " + (int) text.charAt(i), x.type(text.charAt(i)), before + 1);
+            characters++;
+            is("type " + (int) text.charAt(i), x.type(text.charAt(i)), characters);
         }
     }
 

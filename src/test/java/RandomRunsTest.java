@@ -1,7 +1,8 @@
 /** Long runs of calls that a fixed row of numbers chooses, each answer compared with PlainLight. */
 public final class RandomRunsTest {
-    private static final int RUNS = 160;
-    private static final int CALLS = 512;
+    // Some steps are two or three calls, and an object answers 512 of them.
+    private static final int RUNS = 200;
+    private static final int STEPS = 420;
 
     private long seed;
     private final TwistedLight light = new TwistedLight();
@@ -15,7 +16,7 @@ public final class RandomRunsTest {
     public static void main(String[] args) {
         for (int run = 0; run < RUNS && !Due.anyWrong(); run++) {
             RandomRunsTest test = new RandomRunsTest(run);
-            for (int call = 0; call < CALLS; call++) {
+            for (int call = 0; call < STEPS; call++) {
                 test.call("run " + run + " call " + call + " ", run % 4);
             }
         }
