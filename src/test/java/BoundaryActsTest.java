@@ -74,8 +74,8 @@ public final class BoundaryActsTest {
     }
 
     private static void whatIsNoAct() {
-        Due.by("The successful calls of block(), sends(), marks(), adds(), cuts(), stages(), drops(), learns(), orders() "
-                + "and hears() are acts");
+        Due.by("The successful calls of block(), sends(), marks(), adds(), cuts(), stages(), drops(), learns(), "
+                + "orders() and hears() are acts");
         TwistedLight x = someOfEverything();
         x.type('m');
         x.clear();
