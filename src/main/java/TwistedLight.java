@@ -419,6 +419,7 @@ public final class TwistedLight {
 
     /** Leaves the best order in the arrangement and answers its errors. */
     private int findBestOrder() {
+        received.receive(present, 0);
         int least = SPOTS + 1;
         arrangement.start(present.chain.size);
         for (int tried = 0; tried < MOST_ORDERS; tried++) {
@@ -434,12 +435,13 @@ public final class TwistedLight {
         return least;
     }
 
+    /** Expects the air alone in the block that is received. */
     private int errorsInOrder(int[] order) {
-        received.receive(present, 0);
+        trial.takeFrom(received);
         for (int k = 0; k < present.chain.size; k++) {
-            received.passStage(present, order[k]);
+            trial.passStage(present, order[k]);
         }
-        return received.errors(present);
+        return trial.errors(present);
     }
 
     /** Numbers modulo 97, and the light of the symbols. */

@@ -6,10 +6,12 @@ public final class LearntTest {
         tapsRefused();
         skew();
         skewTies();
+        skewIfNearlyAllIsWrong();
         spreads();
         spreadsOfMarksAlone();
         order();
         orderTies();
+        orderUsesAllStages();
         orderOfFour();
         lastOrder();
         orderIfAllIsWrong();
@@ -89,6 +91,16 @@ public final class LearntTest {
         // Place 3 alone is marked: 0 is sent there, and 1 arrives from place 2 for n = 15 alone.
         TwistedLight unseen = Due.told("m3;y1 1 1;d3 1 0 0 0;");
         Due.is("unmarked places do not matter", unseen.skew(), 1);
+    }
+
+    /** All is turned by 2, so row 0 is wrong whatever n is, and of row 1 at most one number is right. */
+    private static void skewIfNearlyAllIsWrong() {
+        TwistedLight x = Due.told("m0 1 2 3 4 5 6 7 8 9 10 11 12 13 14 15;y0 0 0 0 0 2;d2 0 2 0 0;d4 1 5 21 0;");
+        Due.is("all is wrong", x.count(3), 32);
+        Due.is("the smallest n with 31 wrong", x.skew(), 1);
+        TwistedLight one = Due.told("m0 1 2 3 4 5 6 7 8 9 10 11 12 13 14 15;y0 1;d2 0 2 0 0;d4 1 7 20 0;");
+        Due.is("all is wrong", one.count(3), 32);
+        Due.is("n = 6 alone has 31 wrong", one.skew(), 6);
     }
 
     private static void spreads() {
@@ -179,6 +191,22 @@ public final class LearntTest {
             Due.is("order(" + k + ") of a tie", x.order(k), k);
         }
         Due.is("orders() of a tie", x.orders(), Due.STATE);
+    }
+
+    /** Each of these stages harms, so that fewer of them would have fewer errors. */
+    private static void orderUsesAllStages() {
+        TwistedLight x = Due.told("y1 0 0 2 0 3 0 0 1;");
+        int size = 0;
+        for (int by : new int[] {3, 7, 2}) {
+            size++;
+            x.stages(2, by, 0, 0, 0);
+            Due.is(size + " stages harm", x.wrong(size) > x.wrong(0) ? 1 : 0, 1);
+            Due.is("order(-1) of " + size + " stages that harm", x.order(-1), x.wrong(size));
+            for (int k = 0; k < size; k++) {
+                Due.is("order(" + k + ") of " + size + " stages that harm", x.order(k), k);
+            }
+            Due.is("orders() of " + size + " stages that harm", x.orders(), Due.STATE);
+        }
     }
 
     /** Late, twisted, spread, turned: only one order of the four stages undoes them. */
